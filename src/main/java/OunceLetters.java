@@ -4,17 +4,16 @@ import java.util.Arrays;
 public final class OunceLetters {
     public static final int NONE = -1, BAD = -2, NOT = -3, FULL = -4;
 
-    private static final int LETTERS = 8, MONTHS = 12, HOUSES = 8, TERMS = 8;
-    private static final int PLACES = HOUSES * LETTERS;
+    private static final int LETTERS = 8, MONTHS = 12;
+    private static final int TEXTS = 2, HOUSE_BYTES = 23, TEXT_BYTES = 55, PARTS = 8, TERM_LETTERS = 6;
+    private static final int PLACES = PARTS * LETTERS;
     private static final int WRITINGS = 12, LENDINGS = 8, SIGHTS = 8;
-    private static final int TEXTS = 2, HOUSE_BYTES = 23, TERM_BYTES = 55, TERM_LETTERS = 6;
-    private static final int MISER = 1, VOWELLESS = 2;
+    private static final int PLAIN = 0, MISER = 1, VOWELLESS = 2;
     private static final int NOTHING = 0, IN_FULL = 1, SHORT = 2, FINED = 3;
     private static final int SHEETS = 4, FORMS = 3, ITEMS = 60, LOST = -1;
     private static final int NULL = 1, INDEX = 2, CAST = 3, STORE = 4, SIZE = 5;
     private static final int RATIONS = 10, SIXTEENTHS = 16;
 
-    private final Texts texts;
     private final Houses houses;
     private final Terms terms;
     private final Told told;
@@ -29,7 +28,6 @@ public final class OunceLetters {
     private boolean chanceIsOld;
 
     public OunceLetters() {
-        texts = new Texts();
         houses = new Houses();
         terms = new Terms();
         told = new Told();
@@ -49,22 +47,22 @@ public final class OunceLetters {
         if (!isBelow(text, TEXTS) || !isBelow(b, 256)) {
             return BAD;
         }
-        if (texts.length[text] >= texts.limit(text)) {
+        Text it = textOf(text);
+        if (it.length >= it.limit) {
             return FULL;
         }
-        texts.bytes[text][texts.length[text]] = b;
-        texts.length[text]++;
-        textChanged(text);
-        return texts.length[text];
+        it.bytes[it.length] = b;
+        setLength(it, it.length + 1);
+        return it.length;
     }
 
     public int wipe(int text) {
         if (!isBelow(text, TEXTS)) {
             return BAD;
         }
-        int had = texts.length[text];
-        texts.length[text] = 0;
-        textChanged(text);
+        Text it = textOf(text);
+        int had = it.length;
+        setLength(it, 0);
         return had;
     }
 
@@ -72,19 +70,19 @@ public final class OunceLetters {
         if (!isBelow(text, TEXTS)) {
             return BAD;
         }
-        if (texts.length[text] <= 0) {
+        Text it = textOf(text);
+        if (it.length <= 0) {
             return NOT;
         }
-        texts.length[text]--;
-        textChanged(text);
-        return texts.length[text];
+        setLength(it, it.length - 1);
+        return it.length;
     }
 
     public int fault(int text) {
         if (!isBelow(text, TEXTS)) {
             return BAD;
         }
-        return text == 0 ? houses.fault : terms.fault;
+        return textOf(text).fault;
     }
 
     public int house(int house, int what) {
@@ -127,7 +125,7 @@ public final class OunceLetters {
     }
 
     public int lending(int month, int house, int to, int letter) {
-        if (!isBelow(month, MONTHS) || !isBelow(house, HOUSES) || !isBelow(to, HOUSES)
+        if (!isBelow(month, MONTHS) || !isBelow(house, PARTS) || !isBelow(to, PARTS)
                 || !isBelow(letter, LETTERS) || house == to) {
             return BAD;
         }
@@ -205,13 +203,7 @@ public final class OunceLetters {
             return BAD;
         }
         refreshRun();
-        int fined = 0;
-        for (int w = 0; w < told.writings; w++) {
-            if (told.writingHouse[w] == house && asTold.outcome[w] == FINED) {
-                fined++;
-            }
-        }
-        return fined;
+        return asTold.finesOf(house);
     }
 
     public int spent(int letter) {
@@ -325,7 +317,7 @@ public final class OunceLetters {
     }
 
     public int seen(int month, int house, int letter, int n) {
-        if (!isBelow(month, MONTHS) || !isBelow(house, HOUSES) || !isBelow(letter, LETTERS)
+        if (!isBelow(month, MONTHS) || !isBelow(house, PARTS) || !isBelow(letter, LETTERS)
                 || !isBelow(n, 100)) {
             return BAD;
         }
@@ -529,15 +521,16 @@ public final class OunceLetters {
             case 1:
                 return terms.many;
             case 2:
-                return texts.length[0];
+                return houses.length;
             case 3:
-                return texts.length[1];
+                return terms.length;
             case 4:
                 return told.writings;
             case 5:
                 return told.lendings;
             case 6:
-                return allFines();
+                refreshRun();
+                return asTold.finesOf(NONE);
             case 7:
                 return told.sights;
             case 8:
@@ -592,14 +585,6 @@ public final class OunceLetters {
         return 31 * h + post(7, 9, NONE);
     }
 
-    private int allFines() {
-        int sum = 0;
-        for (int house = 0; house < houses.many; house++) {
-            sum += fines(house);
-        }
-        return sum;
-    }
-
     /** How many of these writings, at most, leave alike many of a letter where each is left out. */
     private int mostAlike(int suspects, int letter) {
         int greatest = 0;
@@ -622,12 +607,13 @@ public final class OunceLetters {
         return -10 - finding;
     }
 
-    private void textChanged(int text) {
-        if (text == 0) {
-            houses.readFrom(texts.bytes[0], texts.length[0]);
-        } else {
-            terms.readFrom(texts.bytes[1], texts.length[1]);
-        }
+    private Text textOf(int text) {
+        return text == 0 ? houses : terms;
+    }
+
+    private void setLength(Text it, int length) {
+        it.length = length;
+        it.readAgain();
         worldChanged();
     }
 
@@ -653,7 +639,7 @@ public final class OunceLetters {
     }
 
     private static boolean mayBeWriting(int month, int house, int term) {
-        return isBelow(month, MONTHS) && isBelow(house, HOUSES) && isBelow(term, TERMS);
+        return isBelow(month, MONTHS) && isBelow(house, PARTS) && isBelow(term, PARTS);
     }
 
     private static int nextSeed(int seed) {
@@ -668,31 +654,29 @@ public final class OunceLetters {
         return product;
     }
 
-    /** The bytes that were typed. */
-    private static final class Texts {
-        final int[][] bytes = new int[TEXTS][TERM_BYTES];
-        final int[] length = new int[TEXTS];
+    /** Bytes that were typed, and the parts with ; between them that they tell. */
+    private abstract static class Text {
+        static final int AT_FIRST = 0, INSIDE = 1, AT_END = 2, WRONG = 3;
 
-        int limit(int text) {
-            return text == 0 ? HOUSE_BYTES : TERM_BYTES;
-        }
-    }
-
-    /** What text 0 tells. */
-    private static final class Houses {
-        private static final int AT_KIND = 0, AT_HEADS = 1, AT_END = 2, WRONG = 3;
-
-        final int[] kind = new int[HOUSES];
-        final int[] heads = new int[HOUSES];
+        final int[] bytes = new int[TEXT_BYTES];
+        final int limit;
+        int length = 0;
         int many = 0;
         int fault = NONE;
 
-        void readFrom(int[] bytes, int length) {
+        Text(int limit) {
+            this.limit = Math.min(limit, TEXT_BYTES);
+        }
+
+        /** What a byte, the first of a part or one inside it, leads to; many tells which part. */
+        abstract int step(int state, int b);
+
+        void readAgain() {
             many = 0;
             fault = NONE;
-            int state = AT_KIND;
-            for (int p = 0; p < length && p < bytes.length; p++) {
-                state = step(state, bytes[p]);
+            int state = AT_FIRST;
+            for (int p = 0; p < length && p < TEXT_BYTES; p++) {
+                state = next(state, bytes[p]);
                 if (state == WRONG) {
                     refuse(p);
                     return;
@@ -703,21 +687,32 @@ public final class OunceLetters {
             }
         }
 
+        private int next(int state, int b) {
+            if (state == AT_END) {
+                return b == ';' ? AT_FIRST : WRONG;
+            }
+            return many < PARTS ? step(state, b) : WRONG;
+        }
+
         private void refuse(int place) {
             many = 0;
             fault = place;
         }
+    }
 
-        private int step(int state, int b) {
-            if (state == AT_END) {
-                return b == ';' ? AT_KIND : WRONG;
-            }
-            if (many >= HOUSES) {
-                return WRONG;
-            }
-            if (state == AT_KIND) {
+    /** What text 0 tells. */
+    private static final class Houses extends Text {
+        final int[] kind = new int[PARTS];
+        final int[] heads = new int[PARTS];
+
+        Houses() {
+            super(HOUSE_BYTES);
+        }
+
+        int step(int state, int b) {
+            if (state == AT_FIRST) {
                 kind[many] = kindOf(b);
-                return kind[many] == NONE ? WRONG : AT_HEADS;
+                return kind[many] == NONE ? WRONG : INSIDE;
             }
             if (b < '1' || b > '9') {
                 return WRONG;
@@ -729,7 +724,7 @@ public final class OunceLetters {
 
         private static int kindOf(int b) {
             if (b == 'r') {
-                return 0;
+                return PLAIN;
             }
             if (b == 'm') {
                 return MISER;
@@ -739,52 +734,25 @@ public final class OunceLetters {
     }
 
     /** What text 1 tells. */
-    private static final class Terms {
-        private static final int AT_FIRST = 0, IN_LETTERS = 1, AT_END = 2, WRONG = 3;
+    private static final class Terms extends Text {
+        final int[][] spelling = new int[PARTS][TERM_LETTERS];
+        final int[][] need = new int[PARTS][LETTERS];
+        final int[][] hardNeed = new int[PARTS][LETTERS];
+        final int[] size = new int[PARTS];
+        final int[] hard = new int[PARTS];
+        final int[] meaning = new int[PARTS];
 
-        final int[][] spelling = new int[TERMS][TERM_LETTERS];
-        final int[][] need = new int[TERMS][LETTERS];
-        final int[][] hardNeed = new int[TERMS][LETTERS];
-        final int[] size = new int[TERMS];
-        final int[] hard = new int[TERMS];
-        final int[] meaning = new int[TERMS];
-        int many = 0;
-        int fault = NONE;
-
-        void readFrom(int[] bytes, int length) {
-            many = 0;
-            fault = NONE;
-            int state = AT_FIRST;
-            for (int p = 0; p < length && p < bytes.length; p++) {
-                state = step(state, bytes[p]);
-                if (state == WRONG) {
-                    refuse(p);
-                    return;
-                }
-            }
-            if (length > 0 && state != AT_END) {
-                refuse(length);
-            }
+        Terms() {
+            super(TEXT_BYTES);
         }
 
-        private void refuse(int place) {
-            many = 0;
-            fault = place;
-        }
-
-        private int step(int state, int b) {
-            if (state == AT_END) {
-                return b == ';' ? AT_FIRST : WRONG;
-            }
-            if (many >= TERMS) {
-                return WRONG;
-            }
+        int step(int state, int b) {
             if (state == AT_FIRST) {
                 begin();
             }
             if (b >= 'a' && b < 'a' + LETTERS && size[many] < TERM_LETTERS) {
                 addLetter(b - 'a');
-                return IN_LETTERS;
+                return INSIDE;
             }
             if (state == AT_FIRST || b < '0' || b > '9') {
                 return WRONG;
@@ -1069,6 +1037,17 @@ public final class OunceLetters {
             }
         }
 
+        /** Of a house, or of all (NONE). */
+        int finesOf(int house) {
+            int sum = 0;
+            for (int w = 0; w < told.writings; w++) {
+                if (outcome[w] == FINED && (house == NONE || told.writingHouse[w] == house)) {
+                    sum++;
+                }
+            }
+            return sum;
+        }
+
         /** Whether all that was seen is so; the months that were looked into must have gone by. */
         boolean isAsSeen() {
             for (int i = 0; i < told.sights; i++) {
@@ -1090,8 +1069,8 @@ public final class OunceLetters {
         final Told told;
         final int[] order = new int[WRITINGS];
         final int[][] stock = new int[WRITINGS + 1][PLACES];
-        final int[] fines = new int[HOUSES];
-        final int[][] ways = new int[HOUSES][COUNTS * COUNTS];
+        final int[] fines = new int[PARTS];
+        final int[][] ways = new int[PARTS][COUNTS * COUNTS];
         int live = 0;
 
         Chance(Rules rules, Told told) {
@@ -1103,7 +1082,7 @@ public final class OunceLetters {
             sortLive();
             Arrays.fill(stock[0], 0);
             Arrays.fill(fines, 0);
-            for (int house = 0; house < HOUSES; house++) {
+            for (int house = 0; house < PARTS; house++) {
                 Arrays.fill(ways[house], 0);
             }
             branch(0, 0);

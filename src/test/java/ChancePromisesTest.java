@@ -31,6 +31,12 @@ public final class ChancePromisesTest {
         due("22: without vowels itself", x.meant(4), alike);
         due("22: b b d", x.meant(5), 32);
         due("22: b d", x.meant(6), alike);
+        OunceLetters y = Check.of("", "bcd1;bdc1;cbd1;ab2;b2;ba2;bcde3;bcg4");
+        due("22: b c d", y.meant(0), 1 + 64);
+        due("22: the last two change places", y.meant(1), 2);
+        due("22: the first two change places", y.meant(2), 4);
+        due("22: one letter", y.meant(3), 8 + 16 + 32);
+        due("22: the last is another", y.meant(7), 128);
     }
 
     private static void promise23() {
@@ -156,6 +162,18 @@ public final class ChancePromisesTest {
         x.forget();
         x.seen(0, 1, 3, 9);
         due("27: none is left, the least", x.ask(0, 0), 0);
+        OunceLetters y = Check.of("r9;r1", "d1;c2;dd3");
+        y.writing(0, 0, 1);
+        y.writing(0, 0, 2);
+        y.writing(0, 0, 0);
+        y.writing(0, 0, 1);
+        due("27: d leaves two alike, c two and two", y.ask(0, 0), 2);
+        y.writing(0, 0, 0);
+        due("27: d parts 1, 2, 2; c parts 2, 3", y.ask(0, 0), 3);
+        y.writing(1, 1, 0);
+        due("27: with one that has nothing to do with it", y.ask(0, 0), 3);
+        y.seen(0, 0, 2, 16);
+        due("27: of those that d leaves, d parts alone", y.ask(0, 0), 3);
     }
 
     private static void promise28() {

@@ -208,8 +208,11 @@ public final class MonthPromisesTest {
         due("18: behind the month", x.say(3, 1, 1), NONE);
         due("18: behind another", x.say(2, 1, 1), 4);
         OunceLetters y = Check.of("v1", "ab1");
+        due("18: term 0", y.say(0, 0, 1), 0);
         y.ration(0, 0);
         due("18: short does not count", y.say(0, 0, 1), NONE);
+        OunceLetters z = Check.of("r1", "bbb1;bbb1;bbb1;bbb1;bbb1;bbb1;bbb1;b1");
+        due("18: term 7", z.say(0, 0, 1), 7);
     }
 
     private static void promise19() {
@@ -234,8 +237,12 @@ public final class MonthPromisesTest {
         x.wipe(1);
         due("19: no terms", x.most(0, 0, 0), 0);
         OunceLetters y = Check.of("v1", "ab1");
+        due("19: term 0", y.most(0, 0, 1), 1);
         y.ration(0, 0);
         due("19: short does not count", y.most(0, 0, 0), 0);
+        OunceLetters z = Check.of("r1", "bbb1;b1;b1;c1;c1;d1;d1;h1");
+        due("19: term 7", z.most(0, 0, 1), 254);
+        due("19: seven", z.most(0, 0, 0), 7);
     }
 
     private static void promise20() {
@@ -261,6 +268,9 @@ public final class MonthPromisesTest {
         due("20: three, as bits", y.papers(0, 1), 2 + 4 + 8);
         OunceLetters z = Check.of("", "a0");
         due("20: no others", z.papers(0, 0), NONE);
+        OunceLetters w = Check.of("", "aaaaaa1;a1;a1;a1;a1;a1;b1;a1");
+        due("20: six of seven", w.papers(0, 0), 6);
+        due("20: six of seven", w.papers(0, 1), 254 - 64);
     }
 
     private static void promise21() {

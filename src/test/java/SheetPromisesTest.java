@@ -295,5 +295,23 @@ public final class SheetPromisesTest {
         x.type(1, 'x');
         due("37: with a fault", x.digest(), digestByCalls(x));
         Check.due("37: a fault shows", x.digest() != before);
+        x = Check.of("r1;r2;v3", "bbc1;bbb1;cb2;ddb3;cc1;bd0;d4;c5");
+        for (int i = 0; i < 12; i++) {
+            x.writing(3, i % 3, i * 3 % 8);
+        }
+        Check.due("37: fines", x.fines(0) > 0);
+        Check.due("37: something to ask", x.ask(3, 2) > 0);
+        Check.due("37: a chance", x.censor(5, 0, 1, 0) > 1 && x.censor(5, 0, 1, 0) != x.censor(5, 0, 2, 0));
+        Check.due("37: papers", x.papers(0, 0) != x.papers(0, 1));
+        due("37: with fines and chances", x.digest(), digestByCalls(x));
+        for (int letter = 0; letter < 8; letter++) {
+            x.ration(letter, letter == 2 ? 1 : 0);
+        }
+        x.wipe(1);
+        Check.type(x, 1, "c1");
+        x.back(0);
+        x.writing(2, 0, 0);
+        Check.due("37: bare", x.bare(0) == 2 && x.bare(1) == 0);
+        due("37: with a bare house", x.digest(), digestByCalls(x));
     }
 }

@@ -294,6 +294,7 @@ public final class TextPromisesTest {
         due("12: lost", x.read(0), -11);
         due("12: finding", x.count(8), 1);
         lay(x, 0, 0, 0, 0, 0, 1, 0, 1, 5, 5);
+        due("12: before", x.has(0, 0, 0), 2);
         due("12: two are whole", x.read(0), 2);
         due("12: they came", x.count(4), 2);
         due("12: as told", x.has(0, 0, 0), 1);
@@ -311,6 +312,9 @@ public final class TextPromisesTest {
         due("12: no items", x.read(2), 0);
         x.sheet(2, 2, 2);
         due("12: none is whole", x.read(2), 0);
+        x.sheet(2, 2, 3);
+        due("12: one is whole", x.read(2), 1);
+        due("12: and undone", x.back(0), 3);
         x.sheet(2, 2, 60);
         due("12: as long as there is room", x.read(2), 9);
         due("12: twelve", x.count(4), 12);
