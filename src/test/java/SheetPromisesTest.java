@@ -14,6 +14,7 @@ public final class SheetPromisesTest {
         promise35();
         promise36();
         promise37();
+        promise37Full();
         Check.end("SheetPromisesTest");
     }
 
@@ -240,6 +241,34 @@ public final class SheetPromisesTest {
         due("36: the latest finding", x.count(8), 1);
         x.sheet(0, 0, -1);
         due("36: the latest finding", x.count(8), 5);
+    }
+
+    /** Nothing is left free: eight houses, eight terms, twelve writings, eight lendings, eight seen. */
+    private static void promise37Full() {
+        OunceLetters x = Check.of("r1;m2;v3;r4;m5;v6;r7;m9", "abc1;bcd2;cde3;def4;efg5;fgh6;gha7;habcd8");
+        for (int i = 0; i < 12; i++) {
+            x.writing(11 - i, i % 8, i * 3 % 8);
+        }
+        for (int i = 0; i < 8; i++) {
+            x.lending(11, i, (i + 1) % 8, i);
+        }
+        due("37: with nothing seen", x.digest(), digestByCalls(x));
+        for (int i = 0; i < 8; i++) {
+            x.seen(11, 7, 7, x.has(11, 7, 7));
+        }
+        for (int s = 0; s < 4; s++) {
+            due("37: a full sheet", x.sheet(s, s % 3, 60), 60);
+            due("37: eight items", x.write(11, 7, s), 8);
+            due("37: no room for a writing", x.read(s), 0);
+            due("37: over itself", x.copy(s, 0, s, 52, 8), 1);
+        }
+        int[] want = {8, 8, 23, 41, 12, 8};
+        for (int what = 0; what < 6; what++) {
+            due("37: count of a full object " + what, x.count(what), want[what]);
+        }
+        due("37: eight seen", x.count(7), 8);
+        Check.due("37: all was seen as it is without some", x.never() > 0 && x.never() < 4096);
+        due("37: full", x.digest(), digestByCalls(x));
     }
 
     /** The digest by the calls that the document names, in their order. */
