@@ -155,93 +155,10 @@ public final class ModelTest {
     private void hold(String what, Call call) {
         told.append(call.name()).append(java.util.Arrays.toString(call.a())).append(' ');
         boolean wasWrong = Check.anyWrong();
-        Check.due(what + ": " + call.name() + java.util.Arrays.toString(call.a()), answer(call), due(call));
+        long got = Calls.on(x, call.name(), call.a());
+        Check.due(what + ": " + call.name() + java.util.Arrays.toString(call.a()), got, Calls.on(model, call.name(), call.a()));
         if (Check.anyWrong() && !wasWrong) {
             System.out.println(told);
         }
-    }
-
-    private long answer(Call call) {
-        int[] a = call.a();
-        return switch (call.name()) {
-            case "type" -> x.type(a[0], a[1]);
-            case "wipe" -> x.wipe(a[0]);
-            case "undo" -> x.undo(a[0]);
-            case "fault" -> x.fault(a[0]);
-            case "house" -> x.house(a[0], a[1]);
-            case "word" -> x.word(a[0], a[1]);
-            case "ration" -> x.ration(a[0], a[1]);
-            case "writing" -> x.writing(a[0], a[1], a[2]);
-            case "lending" -> x.lending(a[0], a[1], a[2], a[3]);
-            case "back" -> x.back(a[0]);
-            case "read" -> x.read(a[0]);
-            case "has" -> x.has(a[0], a[1], a[2]);
-            case "became" -> x.became(a[0]);
-            case "fines" -> x.fines(a[0]);
-            case "spent" -> x.spent(a[0]);
-            case "bare" -> x.bare(a[0]);
-            case "say" -> x.say(a[0], a[1], a[2]);
-            case "most" -> x.most(a[0], a[1], a[2]);
-            case "papers" -> x.papers(a[0], a[1]);
-            case "lend" -> x.lend(a[0]);
-            case "meant" -> x.meant(a[0]);
-            case "seen" -> x.seen(a[0], a[1], a[2], a[3]);
-            case "forget" -> x.forget();
-            case "never" -> x.never();
-            case "got" -> x.got(a[0]);
-            case "ask" -> x.ask(a[0], a[1]);
-            case "censor" -> x.censor(a[0], a[1], a[2], a[3]);
-            case "post" -> x.post(a[0], a[1], a[2]);
-            case "sheet" -> x.sheet(a[0], a[1], a[2]);
-            case "lose" -> x.lose(a[0]);
-            case "lay" -> x.lay(a[0], a[1], a[2], a[3]);
-            case "get" -> x.get(a[0], a[1], a[2]);
-            case "copy" -> x.copy(a[0], a[1], a[2], a[3], a[4]);
-            case "write" -> x.write(a[0], a[1], a[2]);
-            case "count" -> x.count(a[0]);
-            default -> x.digest();
-        };
-    }
-
-    private long due(Call call) {
-        int[] a = call.a();
-        return switch (call.name()) {
-            case "type" -> model.type(a[0], a[1]);
-            case "wipe" -> model.wipe(a[0]);
-            case "undo" -> model.undo(a[0]);
-            case "fault" -> model.fault(a[0]);
-            case "house" -> model.house(a[0], a[1]);
-            case "word" -> model.word(a[0], a[1]);
-            case "ration" -> model.ration(a[0], a[1]);
-            case "writing" -> model.writing(a[0], a[1], a[2]);
-            case "lending" -> model.lending(a[0], a[1], a[2], a[3]);
-            case "back" -> model.back(a[0]);
-            case "read" -> model.read(a[0]);
-            case "has" -> model.has(a[0], a[1], a[2]);
-            case "became" -> model.became(a[0]);
-            case "fines" -> model.fines(a[0]);
-            case "spent" -> model.spent(a[0]);
-            case "bare" -> model.bare(a[0]);
-            case "say" -> model.say(a[0], a[1], a[2]);
-            case "most" -> model.most(a[0], a[1], a[2]);
-            case "papers" -> model.papers(a[0], a[1]);
-            case "lend" -> model.lend(a[0]);
-            case "meant" -> model.meant(a[0]);
-            case "seen" -> model.seen(a[0], a[1], a[2], a[3]);
-            case "forget" -> model.forget();
-            case "never" -> model.never();
-            case "got" -> model.got(a[0]);
-            case "ask" -> model.ask(a[0], a[1]);
-            case "censor" -> model.censor(a[0], a[1], a[2], a[3]);
-            case "post" -> model.post(a[0], a[1], a[2]);
-            case "sheet" -> model.sheet(a[0], a[1], a[2]);
-            case "lose" -> model.lose(a[0]);
-            case "lay" -> model.lay(a[0], a[1], a[2], a[3]);
-            case "get" -> model.get(a[0], a[1], a[2]);
-            case "copy" -> model.copy(a[0], a[1], a[2], a[3], a[4]);
-            case "write" -> model.write(a[0], a[1], a[2]);
-            case "count" -> model.count(a[0]);
-            default -> model.digest();
-        };
     }
 }

@@ -1,6 +1,6 @@
 /** Promises 30 to 37: sheets, count, digest. */
 public final class SheetPromisesTest {
-    private static final int NONE = -1, BAD = -2;
+    private static final int BAD = -2;
     private static final int NULL = -11, INDEX = -12, CAST = -13, STORE = -14, SIZE = -15;
     private static final int LEAST = Integer.MIN_VALUE;
 
@@ -252,7 +252,7 @@ public final class SheetPromisesTest {
         for (int i = 0; i < 8; i++) {
             x.lending(11, i, (i + 1) % 8, i);
         }
-        due("37: with nothing seen", x.digest(), digestByCalls(x));
+        due("37: with nothing seen", x.digest(), Calls.digestOf(x));
         for (int i = 0; i < 8; i++) {
             x.seen(11, 7, 7, x.has(11, 7, 7));
         }
@@ -268,61 +268,27 @@ public final class SheetPromisesTest {
         }
         due("37: eight seen", x.count(7), 8);
         Check.due("37: all was seen as it is without some", x.never() > 0 && x.never() < 4096);
-        due("37: full", x.digest(), digestByCalls(x));
-    }
-
-    /** The digest by the calls that the document names, in their order. */
-    private static long digestByCalls(OunceLetters x) {
-        long[] h = {17};
-        for (int what = 0; what < 8; what++) {
-            add(h, x.count(what));
-        }
-        add(h, x.fault(0), x.fault(1));
-        for (int it = 0; it < x.count(0); it++) {
-            add(h, x.house(it, 0), x.house(it, 1), x.has(0, it, NONE), x.has(11, it, NONE), x.has(5, it, 0));
-            add(h, x.fines(it), x.most(3, it, 0), x.most(3, it, 1), x.say(3, it, 1), x.ask(3, it));
-            add(h, x.censor(5, it, 1, 0), x.censor(5, it, 1, 1), x.post(7, 9, it));
-        }
-        for (int it = 0; it < x.count(1); it++) {
-            for (int what = 0; what < 10; what++) {
-                add(h, x.word(it, what));
-            }
-            add(h, x.papers(it, 0), x.papers(it, 1), x.meant(it));
-        }
-        for (int it = 0; it < x.count(4); it++) {
-            add(h, x.became(it), x.lend(it));
-        }
-        for (int it = 0; it < 8; it++) {
-            add(h, x.spent(it), x.got(it));
-        }
-        add(h, x.bare(0), x.bare(1), x.never(), x.post(7, 9, NONE));
-        return h[0];
-    }
-
-    private static void add(long[] h, long... values) {
-        for (long v : values) {
-            h[0] = 31 * h[0] + v;
-        }
+        due("37: full", x.digest(), Calls.digestOf(x));
     }
 
     private static void promise37() {
         OunceLetters x = new OunceLetters();
-        due("37: of a new object", x.digest(), digestByCalls(x));
+        due("37: of a new object", x.digest(), Calls.digestOf(x));
         x = Check.of("r1;m2;v1", "abc1;bd1;eeb2;h0");
         for (int i = 0; i < 12; i++) {
             x.writing(i / 3, i % 4, i % 5);
-            due("37: with writings", x.digest(), digestByCalls(x));
+            due("37: with writings", x.digest(), Calls.digestOf(x));
         }
         x.lending(1, 1, 2, 0);
         x.seen(2, 1, 1, 3);
         x.ration(1, 1);
-        due("37: with all", x.digest(), digestByCalls(x));
+        due("37: with all", x.digest(), Calls.digestOf(x));
         long before = x.digest();
         due("37: it changes nothing", x.digest(), before);
         x.lose(0);
         due("37: findings do not count", x.digest(), before);
         x.type(1, 'x');
-        due("37: with a fault", x.digest(), digestByCalls(x));
+        due("37: with a fault", x.digest(), Calls.digestOf(x));
         Check.due("37: a fault shows", x.digest() != before);
         x = Check.of("r1;r2;v3", "bbc1;bbb1;cb2;ddb3;cc1;bd0;d4;c5");
         for (int i = 0; i < 12; i++) {
@@ -332,7 +298,7 @@ public final class SheetPromisesTest {
         Check.due("37: something to ask", x.ask(3, 2) > 0);
         Check.due("37: a chance", x.censor(5, 0, 1, 0) > 1 && x.censor(5, 0, 1, 0) != x.censor(5, 0, 2, 0));
         Check.due("37: papers", x.papers(0, 0) != x.papers(0, 1));
-        due("37: with fines and chances", x.digest(), digestByCalls(x));
+        due("37: with fines and chances", x.digest(), Calls.digestOf(x));
         for (int letter = 0; letter < 8; letter++) {
             x.ration(letter, letter == 2 ? 1 : 0);
         }
@@ -341,6 +307,6 @@ public final class SheetPromisesTest {
         x.back(0);
         x.writing(2, 0, 0);
         Check.due("37: bare", x.bare(0) == 2 && x.bare(1) == 0);
-        due("37: with a bare house", x.digest(), digestByCalls(x));
+        due("37: with a bare house", x.digest(), Calls.digestOf(x));
     }
 }
