@@ -105,6 +105,11 @@ final class ChanceBoundaries {
             "writing 0 0 1", "ask 0 0 = 0", "back 0", "ask 0 0 = 6");
         Script.hold(27, "the LETTER of which the greatest number of those WRITINGS by which it has alike many is least", "houses r9", "terms ah1;h1;hh1",
             "writing 0 0 0", "writing 0 0 1", "ask 0 0 = 0", "writing 0 0 2", "writing 0 0 2", "ask 0 0 = 7", "writing 5 0 2", "ask 0 0 = 7");
+        Script.hold(27, "greatest number of those WRITINGS by which it has alike many", "houses r9", "terms h1;c1;d1", "writing 0 0 0", "writing 0 0 1",
+            "writing 0 0 0", "writing 0 0 2", "writing 0 0 0", "ask 0 0 = 7", "seen 0 0 7 15", "never = 10", "ask 0 0 = 2", "ask 1 0 = 0");
+        // A miser with six h a month: behind month 0 without the one five, without the other three; then 8 and 7, 10 and 9, 11 and 10, 11 and 11.
+        Script.hold(27, "ASK of a HOUSE behind a MONTH", "houses m3", "terms hhh1;h1", "writing 0 0 0", "writing 0 0 1", "ask 0 0 = 7", "ask 1 0 = 7",
+            "ask 3 0 = 7", "ask 4 0 = 0", "ask 11 0 = 0", "ask 0 0 = 7", "has 1 0 7 = 7");
         Script.hold(27, "ASK.", behind(A_YEAR, "ask 11 0 = 1", "ask 0 0 = 1", "seen 11 0 1 1", "ask 11 0 = 0", "ask 0 0 = 1"));
     }
 
@@ -163,6 +168,14 @@ final class ChanceBoundaries {
         fraction(byItself, "houses r1 / terms bbb1 / writing 0 1 0 / writing 0 0 1 / writing 0 7 7", "16 0 0", 1, 1);
         fraction(byItself, "houses r1 / terms bbb1 / writing 0 1 0 / writing 11 0 0 / writing 0 0 1", "4 0 0", 3, 4);
         fraction(byItself, "houses v1 / terms ab1 / ration 0 0 / 3* writing 0 0 0", "8 0 0", 7, 8);
+        String lent = "houses m1;r1 / terms bbb1;b1 / lending 1 0 1 1 / lending 1 0 1 1 / lending 1 0 1 1 / lending 1 1 0 1";
+        fraction(byItself, lent + " / writing 1 1 0", "8 1 0", 1, 1);
+        fraction(byItself, lent + " / writing 1 0 1", "8 0 0", 1, 1);
+        fraction(byItself, "houses m1;r1 / terms bbbbb1;b1 / writing 0 0 1 / writing 1 1 0 / 3* lending 1 0 1 1", "8 1 0", 3, 4);
+        fraction(byItself, "houses m2;r1 / terms bbbbbb1;bb1 / writing 0 0 1 / writing 1 1 0 / 8* lending 1 0 1 1", "8 1 0", 1, 1);
+        fraction(byItself, "houses m2;r1 / terms bbbbbb1;bbbb1 / writing 0 0 1 / writing 1 1 0 / 4* lending 1 0 1 1", "8 1 0", 1, 1);
+        Script.hold(28, byItself, "houses m1", "terms bbb1", "writing 0 0 0", "censor 8 0 0 0 = 1", "censor 8 0 0 1 = 2", "ration 7 1",
+            "censor 8 0 0 0 = 1", "censor 8 0 0 1 = 2", "ration 1 3", "censor 8 0 0 1 = 1");
         String twoOfThree = "houses r1 / terms bbb1 / 3* writing 0 0 0";
         String chance = "the chance that a HOUSE is FINED no more than so many times (0 to 12): a FRACTION.";
         fraction(chance, twoOfThree, "8 0 0", 1, 8);

@@ -276,6 +276,14 @@ final class MonthBoundaries {
     }
 
     private static void lendInPlace() {
+        String place = "LEND for a WRITING, in place of LENDINGS told";
+        Script.hold(21, place, "houses m1;r9", "terms bbb1;bbbb1", "writing 0 0 0", "lend 0 = 1", "back 0", "writing 1 0 0", "lend 0 = 0", "back 0",
+            "writing 11 0 1", "lend 0 = 1", "2* lending 10 1 0 1", "became 0 = 1", "lend 0 = 1", "writing 10 0 0", "lend 0 = 2", "lend 1 = 0");
+        // What LEND leaves out for itself is there again for whoever asks next.
+        Script.hold(21, place, "houses m1;r9", "terms bb1;b1", "writing 0 0 0", "writing 2 0 0", "2* lending 0 1 0 1", "2* lending 1 1 0 1",
+            "seen 0 0 1 2", "lend 0 = 0", "never = 2", "lend 1 = 0", "got 1 = 4", "lend 0 = 0", "post 7 0 1 = 142", "lend 0 = 0", "has 0 0 1 = 2");
+        Script.hold(21, place, "houses r1;r1", "terms hhh1", "writing 0 0 0", "writing 5 0 0", "lending 0 1 0 7", "lend 0 = 1", "ask 0 0 = 7",
+            "lend 1 = 1", "ask 0 0 = 7", "became 0 = 1", "became 1 = 3");
         Script.hold(21, "so that it is IN FULL: how many;", "houses v1", "terms ab1", "ration 0 0", "writing 0 0 0", "became 0 = 2", "lend 0 = 1");
         Script.hold(21, "LEND for a WRITING, in place of LENDINGS told", "houses r1;r1", "terms bb1;bbb1", "writing 0 0 0", "writing 0 1 1",
             "lend 0 = 0", "lend 1 = 1", "lending 0 0 1 1", "became 0 = 3", "became 1 = 1", "lend 0 = 0", "lend 1 = 1");

@@ -8,7 +8,7 @@ import java.util.Set;
  * Runs of calls told as texts, each on a new object, for one sentence of the document: "writing 0 7 7 = 12" is a call
  * and what is due, "12* writing 0 0 0" twelve of them; "houses r1;m2" and "terms ab1" type texts, "rations 0" sets all
  * rations, "items 0 2 5 6" makes sheet 0 a row of form 2 with items 5 and 6. A call that is refused, or that only asks,
- * must change nothing: what comes behind it is held against a twin to which it never came.
+ * must change nothing: what comes behind it is held against a twin to which no such call came.
  */
 final class Script {
     private static final int CALLS = 512;
@@ -108,7 +108,7 @@ final class Script {
 
     private static long due(List<Step> steps, int k) {
         Step step = steps.get(k);
-        return step.want.equals("CALLS") ? Calls.digestOf(run(steps, k)) : number(step.name, step.want);
+        return step.want.equals("CALLS") ? Calls.digestOf(runChanges(steps, k)) : number(step.name, step.want);
     }
 
     private static long number(String name, String want) {
@@ -133,6 +133,17 @@ final class Script {
         return x;
     }
 
+    /** The same without what is refused or asked, so that nothing that was kept from an answer can hide. */
+    private static OunceLetters runChanges(List<Step> steps, int many) {
+        OunceLetters x = new OunceLetters();
+        for (Step step : steps.subList(0, many)) {
+            if (!step.changesNothing()) {
+                Calls.on(x, step.name, step.a);
+            }
+        }
+        return x;
+    }
+
     /** Step k changed nothing: not count() 8 but by a finding, and no answer that later calls give. */
     private static void dueUnchanged(String label, List<Step> steps, int k) {
         Step step = steps.get(k);
@@ -141,7 +152,7 @@ final class Script {
         Check.due(label + " " + step + " and count(8)", Calls.on(run(steps, k + 1), "count", 8), finding > 0 ? finding : latest);
         for (List<Step> probe : PROBES) {
             OunceLetters x = run(steps, k + 1);
-            OunceLetters twin = run(steps, k);
+            OunceLetters twin = runChanges(steps, k);
             int many = Math.min(probe.size(), CALLS - k - 1);
             for (Step asked : probe.subList(0, Math.max(0, many))) {
                 long got = Calls.on(x, asked.name, asked.a);

@@ -252,6 +252,9 @@ final class SheetBoundaries {
         Script.hold(37, "of texts fault();", "houses r1;x", "terms abc", "fault 0 = 3", "fault 1 = 3", "digest = CALLS", "undo 0", "digest = CALLS");
         Script.hold(37, "of HOUSES house() 0, 1, has(0, it, NONE)", "houses r1;m2;v9", "digest = CALLS", "writing 0 0 0", "terms bbb1;b1", "digest = CALLS",
             "2* writing 3 1 1", "ration 0 1", "digest = CALLS");
+        Script.hold(37, "say(3, it, 1), ask(3, it), censor(5, it, 1), above, below", "houses r1", "terms h1;hhh1", "writing 3 0 0", "writing 5 0 0",
+            "ask 2 0 = 0", "ask 3 0 = 7", "ask 4 0 = 0", "say 2 0 1 = 0", "digest = CALLS", "3* writing 3 0 1", "censor 5 0 1 0 = 1573",
+            "censor 5 0 1 1 = 2048", "digest = CALLS");
         Script.hold(37, "of TERMS word() 0 to 9, papers() 0, 1, meant();", "terms abc1;ab2;c3;e4", "digest = CALLS", EIGHT_HOUSES, "digest = CALLS");
         Script.hold(37, "of WRITINGS became(), lend();", "houses v1;r1", "terms abb1;bb2", "ration 0 0", "writing 0 0 0", "writing 0 0 1", "writing 0 1 1",
             "writing 0 2 1", "became 0 = 2", "became 1 = 3", "became 2 = 1", "became 3 = 0", "lend 0 = 1", "lend 1 = 2", "lend 3 = NONE", "digest = CALLS");

@@ -26,6 +26,7 @@ final class TextBoundaries {
         readWhole();
         readMayBe();
         readRefused();
+        changes();
     }
 
     private static void newObject() {
@@ -314,5 +315,20 @@ final class TextBoundaries {
                 "read " + s + " = NULL", "count 4 = 1");
         }
         Script.hold(12, "NULL.", "12* writing 0 0 0", "read 0 = NULL", "count 4 = 12");
+    }
+
+    /** Whatever was asked before, each change shows in all that is asked behind it. */
+    private static void changes() {
+        String[] state = {"houses m1;r1", "terms bbb1;b1", "3* writing 3 0 0", "3* writing 4 1 0", "3* lending 4 0 1 1", "items 0 0 3 0 0 4 1 0"};
+        String[][] changes = {
+            {"2", "comes behind a text", "houses ;v9"}, {"3", "A text is empty", "wipe 0"}, {"4", "The last byte of a text is undone", "3* undo 0"},
+            {"8", "RATION of a LETTER", "ration 1 3"}, {"9", "A WRITING more", "writing 3 0 0"}, {"10", "A LENDING more", "lending 4 0 1 1"},
+            {"11", "The last WRITING (what = 0)", "back 0"}, {"11", "LENDING (1) is undone", "back 1"}, {"12", "WRITINGS from a SHEET", "read 0"}};
+        for (String[] change : changes) {
+            String[] steps = java.util.Arrays.copyOf(state, state.length + 8);
+            String[] more = {"digest = CALLS", change[2], "digest = CALLS", "wipe 0", "digest = CALLS", "houses v2;m1", "ration 0 0", "digest = CALLS"};
+            System.arraycopy(more, 0, steps, state.length, more.length);
+            Script.hold(Integer.parseInt(change[0]), change[1], steps);
+        }
     }
 }
