@@ -35,7 +35,8 @@ final class ChanceBoundaries {
         Script.range(22, "8 at most (0 on), with ; between them: 1 to 6 LETTERS", EIGHT_TERMS, "meant ?", 0, 7);
         Script.range(22, "BAD.", "terms b1", "meant ?", 0, 0);
         Script.hold(22, "BAD.", "meant 0 = BAD", "terms b", "meant 0 = BAD", "type 1 '1'", "meant 0 = 1");
-        Script.hold(22, "TERMS with a LETTER that is no VOWEL that read so without VOWELS", "terms b1;ab2;ba3;eb4;be5;aba6;aaaaab7;beeeee8",
+        Script.hold(22, "MEANT by a TERM that is written SHORT: TERMS with a LETTER that is no VOWEL that read so without VOWELS, as bits",
+            "terms b1;ab2;ba3;eb4;be5;aba6;aaaaab7;beeeee8",
             "meant 0 = 255", "meant 7 = 255", "meant 6 = 255");
         Script.hold(22, "(of one without such a LETTER: none).", "terms a1;e1;ae1;aeaeae1;h1", "meant 0 = 0", "meant 1 = 0", "meant 2 = 0",
             "meant 3 = 0", "meant 4 = 16");
@@ -65,10 +66,12 @@ final class ChanceBoundaries {
     private static void never() {
         Script.hold(25, "NEVER, as bits.", "never = 0", "writing 0 0 0", "never = 1", "10* writing 0 0 0", "never = 2047", "writing 11 7 7",
             "never = 4095", "back 0", "never = 2047");
-        Script.hold(25, "had it alone not been, makes all that was SEEN come out so", behind(A_YEAR, "never = 4095", "seen 11 0 1 2", "never = 2048",
+        Script.hold(25, "NEVER: WRITINGS each of which, had it alone not been, makes all that was SEEN come out so, as bits",
+            behind(A_YEAR, "never = 4095", "seen 11 0 1 2", "never = 2048",
             "forget", "seen 0 0 1 2", "never = 1", "forget", "seen 11 0 1 1", "never = 2047", "seen 0 0 1 1", "never = 2046", "seen 5 0 1 2",
             "never = 32", "seen 6 0 1 2", "never = 0", "forget", "never = 4095", "count 4 = 12"));
-        Script.hold(25, "had it alone not been, makes all that was SEEN come out so", "houses r1", "terms bb1;b1", "writing 0 0 0", "writing 0 0 1",
+        Script.hold(25, "NEVER: WRITINGS each of which, had it alone not been, makes all that was SEEN come out so, as bits",
+            "houses r1", "terms bb1;b1", "writing 0 0 0", "writing 0 0 1",
             "seen 0 0 1 1", "never = 1", "forget", "seen 0 0 1 0", "never = 2", "forget", "seen 0 0 1 2", "never = 0");
         Script.hold(25, "had so many (0 to 99)", "houses m7;r9", "terms b1", "writing 0 1 0", "ration 0 7", "ration 7 0", "lending 8 1 0 0",
             "lending 8 1 0 0", "has 8 0 0 = 99", "seen 8 0 0 99", "never = 1", "seen 11 0 7 0", "never = 1", "seen 8 0 0 98", "never = 0");
@@ -85,9 +88,11 @@ final class ChanceBoundaries {
     private static void got() {
         Script.range(26, "LETTERS are a to h (0 to 7);", "houses r1 / seen 0 0 0 2", "got ?", 0, 7);
         Script.range(26, "BAD.", "", "got ?", 0, 7);
-        Script.hold(26, "RATIONS (0 to 9) of it in place of its own", "houses r1", "seen 0 0 0 0", "got 0 = 1", "forget", "seen 0 0 0 9", "got 0 = 512",
+        Script.hold(26, "GOT of a LETTER: RATIONS (0 to 9) of it in place of its own, likewise, as bits.",
+            "houses r1", "seen 0 0 0 0", "got 0 = 1", "forget", "seen 0 0 0 9", "got 0 = 512",
             "ration 0 5", "got 0 = 512", "forget", "seen 0 0 0 10", "got 0 = 0", "ration 0 9 = 5");
-        Script.hold(26, "RATIONS (0 to 9) of it in place of its own", "houses r9", "seen 11 0 7 81", "got 7 = 512", "got 0 = 0", "forget", "seen 11 0 7 80",
+        Script.hold(26, "GOT of a LETTER: RATIONS (0 to 9) of it in place of its own, likewise, as bits.",
+            "houses r9", "seen 11 0 7 81", "got 7 = 512", "got 0 = 0", "forget", "seen 11 0 7 80",
             "got 7 = 0", "forget", "seen 11 0 7 18", "got 7 = 4", "got 0 = 1023", "got 6 = 1023");
         Script.hold(26, "GOT, as bits.", "got 0 = 1023", "got 7 = 1023", "houses r1", "terms b1;bbb1", "writing 0 0 0", "writing 0 0 1", "seen 0 0 1 0",
             "got 1 = 19", "forget", "seen 0 0 1 5", "got 1 = 512", "forget", "seen 0 0 1 2", "got 1 = 72", "seen 0 0 1 3", "got 1 = 0");
@@ -121,7 +126,7 @@ final class ChanceBoundaries {
     }
 
     private static void censorRefused() {
-        Script.range(28, "each WRITING goes through by c sixteenths (0 to 16)", TWELVE_FINED, "censor ? 0 1 0", 0, 16);
+        Script.range(28, "CENSOR: each WRITING goes through by c sixteenths (0 to 16)", TWELVE_FINED, "censor ? 0 1 0", 0, 16);
         Script.range(28, HOUSES, EIGHT_HOUSES, "censor 5 ? 1 0", 0, 7);
         Script.range(28, "BAD.", "houses r1", "censor 5 ? 1 1", 0, 0);
         Script.range(28, "is FINED no more than so many times (0 to 12)", TWELVE_FINED, "censor 5 0 ? 0", 0, 12);
@@ -199,7 +204,7 @@ final class ChanceBoundaries {
     /** Seven houses with 16 letters each; the term at i has i + 1 letters, so that what is left tells both lots. */
     private static void postLots() {
         String state = "houses r1;r1;r1;r1;r1;r1;r1 / terms b1;bc1;bcd1;bcdf1;bcdfg1;bcdfgh1";
-        String lots = "SEED becomes 1103515245 SEED and 12345, as ints that wrap;";
+        String lots = "LOTS of m: SEED becomes 1103515245 SEED and 12345, as ints that wrap;";
         // seed, house 0 to 6 and term 0 to 5: of the upper bits 0, 54236; 16838, 38526; 48697, 4409; 15929, 37177; 32768, 21468.
         int[][] first = {{0, 0, 2}, {1, 3, 0}, {-1, 5, 5}, {Integer.MAX_VALUE, 4, 1}, {Integer.MIN_VALUE, 1, 0}, {7, 0, 2}, {12345, 0, 0}};
         for (int[] lot : first) {
@@ -213,7 +218,7 @@ final class ChanceBoundaries {
     }
 
     private static void postMonths() {
-        String months = "in each MONTH from 0 to a told one a LOT of HOUSES, a LOT of TERMS is a WRITING more, behind those told";
+        String months = "POST by a SEED: in each MONTH from 0 to a told one a LOT of HOUSES, a LOT of TERMS is a WRITING more, behind those told";
         Script.hold(29, months, "houses r1", "terms b1", "post 5 0 NONE = 1", "post 5 0 0 = 15", "post 5 1 NONE = 2", "post 5 11 NONE = 12",
             "post 5 11 0 = 15", "count 4 = 0", "has 0 0 NONE = 16");
         Script.hold(29, months, "houses r1", "terms bb1", "12* writing 11 0 0", "post 5 11 NONE = 11", "post 5 10 NONE = 11", "post 5 11 0 = 14",

@@ -7,18 +7,14 @@ import java.nio.file.Files;
 import java.nio.file.Path;
 import java.util.Set;
 import java.util.TreeSet;
+import java.util.regex.Matcher;
+import java.util.regex.Pattern;
 
 /** The public face, and the rules of LANGUAGE.md that can be read off the class and its source. */
 public final class FaceTest {
-    private static final String[] METHODS = {
-        "int type(int,int)", "int wipe(int)", "int undo(int)", "int fault(int)", "int house(int,int)",
-        "int word(int,int)", "int ration(int,int)", "int writing(int,int,int)", "int lending(int,int,int,int)",
-        "int back(int)", "int read(int)", "int has(int,int,int)", "int became(int)", "int fines(int)",
-        "int spent(int)", "int bare(int)", "int say(int,int,int)", "int most(int,int,int)", "int papers(int,int)",
-        "int lend(int)", "int meant(int)", "int seen(int,int,int,int)", "int forget()", "int never()", "int got(int)",
-        "int ask(int,int)", "long censor(int,int,int,int)", "int post(int,int,int)", "int sheet(int,int,int)",
-        "int lose(int)", "int lay(int,int,int,int)", "int get(int,int,int)", "int copy(int,int,int,int,int)",
-        "int write(int,int,int)", "int count(int)", "long digest()"};
+    private static final Set<String> NAMES = new TreeSet<>();
+    /** What the class calls of the library; rule 4 has more, but a new one is to be looked up there first. */
+    private static final Set<String> LIBRARY = Set.of("Math.max", "Math.min", "Integer.bitCount", "Arrays.fill", "System.arraycopy");
 
     public static void main(String[] args) throws IOException {
         members();
@@ -27,23 +23,23 @@ public final class FaceTest {
         Check.end("FaceTest");
     }
 
-    private static void members() {
+    private static void members() throws IOException {
         Class<?> face = OunceLetters.class;
         Check.due("the class is public and final", Modifier.isPublic(face.getModifiers()) && Modifier.isFinal(face.getModifiers()));
-        Set<String> want = new TreeSet<>(Set.of(METHODS));
+        Set<String> want = faceOfDocument();
         Set<String> got = new TreeSet<>();
-        Set<String> names = new TreeSet<>();
         for (Method m : face.getDeclaredMethods()) {
             if (Modifier.isPublic(m.getModifiers())) {
                 got.add(signature(m));
-                names.add(m.getName());
+                NAMES.add(m.getName());
             }
         }
+        Check.due("methods of the document", want.size(), 36);
         Check.due("public methods are those of the document: " + got, got.equals(want));
         for (Method m : face.getDeclaredMethods()) {
             boolean isHidden = Modifier.isPrivate(m.getModifiers());
             Check.due("a method is public or private: " + m, isHidden || Modifier.isPublic(m.getModifiers()));
-            Check.due("no private method bears a public name: " + m, !isHidden || !names.contains(m.getName()));
+            Check.due("no private method bears a public name: " + m, !isHidden || !NAMES.contains(m.getName()));
             Check.due("seven parameters at most: " + m, m.getParameterCount() <= 7);
         }
         int constants = 0;
@@ -60,6 +56,15 @@ public final class FaceTest {
         Check.due("FULL", OunceLetters.FULL, -4);
         Constructor<?>[] made = face.getDeclaredConstructors();
         Check.due("one constructor", made.length == 1 && made[0].getParameterCount() == 0 && Modifier.isPublic(made[0].getModifiers()));
+    }
+
+    private static Set<String> faceOfDocument() throws IOException {
+        Set<String> face = new TreeSet<>();
+        Matcher told = Pattern.compile("    public (\\w+ \\w+)\\((.*)\\);").matcher(Files.readString(Path.of("../shared/DOC.md")));
+        while (told.find()) {
+            face.add(told.group(1) + "(" + told.group(2).replaceAll("(\\w+) \\w+", "$1").replace(" ", "") + ")");
+        }
+        return face;
     }
 
     private static String signature(Method m) {
@@ -83,6 +88,10 @@ public final class FaceTest {
                 Check.due("a static field is final: " + f, !isStatic || Modifier.isFinal(f.getModifiers()));
             }
             Check.due("twenty fields at most: " + c, own <= 20);
+            for (Method m : c.getDeclaredMethods()) {
+                Check.due("no method inside bears a public name: " + m, !NAMES.contains(m.getName()));
+                Check.due("seven parameters at most: " + m, m.getParameterCount() <= 7);
+            }
         }
     }
 
@@ -99,6 +108,10 @@ public final class FaceTest {
         Check.due("no joined texts", !bare.contains("\""));
         for (String line : bare.split("\n")) {
             Check.due("imports: " + line, !line.startsWith("import") || line.equals("import java.util.Arrays;"));
+        }
+        Matcher called = Pattern.compile("\\b[A-Z]\\w*\\.\\w+(?=\\()").matcher(bare);
+        while (called.find()) {
+            Check.due("the library has " + called.group(), LIBRARY.contains(called.group()));
         }
         methodLengths(text);
     }

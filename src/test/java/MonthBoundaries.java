@@ -39,7 +39,8 @@ final class MonthBoundaries {
         Script.range(13, "BAD.", "houses r1", "has 0 ? 0", 0, 0);
         Script.range(13, sentence, EIGHT_HOUSES, "has 0 0 ?", -1, 7);
         Script.hold(13, "BAD.", "has 0 0 0 = BAD", "has 0 0 NONE = BAD", "houses r1;", "has 0 0 0 = BAD");
-        Script.hold(13, "how many of a LETTER a HOUSE has;", "houses r1", "ration 0 0", "ration 7 9", "has 0 0 0 = 0", "has 0 0 1 = 2",
+        Script.hold(13, "Behind a MONTH: how many of a LETTER a HOUSE has;",
+            "houses r1", "ration 0 0", "ration 7 9", "has 0 0 0 = 0", "has 0 0 1 = 2",
             "has 0 0 7 = 9");
         Script.hold(13, "all together.", "houses m9", "rations 0", "has 0 0 NONE = 0", "ration 0 1", "has 0 0 NONE = 9", "ration 0 0",
             "ration 7 1", "has 0 0 NONE = 9", "rations 9", "has 0 0 NONE = 648", "has 11 0 NONE = 1288");
@@ -105,7 +106,8 @@ final class MonthBoundaries {
         Script.range(14, "BAD: no such.", "12* writing 0 0 0", "became ?", 0, 11);
         Script.range(14, "BAD: no such.", "writing 11 7 7", "became ?", 0, 0);
         Script.hold(14, "BAD: no such.", "became 0 = BAD", "writing 0 0 0", "became 0 = 0", "became 1 = BAD", "back 0", "became 0 = BAD");
-        Script.hold(14, "(0 nothing, 1 IN FULL, 2 SHORT, 3 FINED).", "houses v1", "terms abb1;bbb1", "ration 0 0", "writing 0 0 1",
+        Script.hold(14, "Of a WRITING: what became of it (0 nothing, 1 IN FULL, 2 SHORT, 3 FINED).",
+            "houses v1", "terms abb1;bbb1", "ration 0 0", "writing 0 0 1",
             "writing 0 0 0", "writing 0 0 0", "writing 0 1 0", "writing 0 0 2", "ration 1 5", "became 0 = 1", "became 1 = 2", "became 2 = 3",
             "became 3 = 0", "became 4 = 0");
         Script.hold(14, "What became of a WRITING.", "houses r1;r1;r1;r1;r1;r1;r1;r1", "terms a1;b1;c1;d1;e1;f1;g1;hh1", "ration 7 1",
@@ -179,7 +181,8 @@ final class MonthBoundaries {
         Script.range(16, "BAD.", "", "spent ?", 0, 7);
         Script.hold(16, "SPENT.", "spent 0 = 0", "spent 7 = 0", "houses r9", "terms hhhhhh1;aaaaaa1", "ration 7 9", "12* writing 11 0 0",
             "spent 7 = 72", "spent 0 = 0", "back 0", "spent 7 = 66", "writing 0 0 1", "spent 0 = 6", "spent 7 = 66");
-        Script.hold(16, "how many of a LETTER were, in all.", "houses v1;r1", "terms ab1;abbb1", "ration 0 0", "writing 0 0 0", "spent 1 = 1",
+        Script.hold(16, "SPENT: how many of a LETTER were, in all.",
+            "houses v1;r1", "terms ab1;abbb1", "ration 0 0", "writing 0 0 0", "spent 1 = 1",
             "spent 0 = 0", "writing 5 1 0", "spent 1 = 1", "writing 11 0 1", "spent 1 = 1", "writing 11 0 0", "spent 1 = 2", "writing 0 2 0",
             "writing 0 0 2", "spent 1 = 2");
     }
@@ -189,7 +192,8 @@ final class MonthBoundaries {
         Script.range(17, "BARE: the MONTH (what = 0), which (1);", "houses r1 / rations 0", "bare ?", 0, 1);
         Script.hold(17, "which, the least; NONE.", "bare 0 = NONE", "bare 1 = NONE", "rations 0", "bare 0 = NONE", "bare 1 = NONE", "houses r1", "bare 0 = 0",
             "bare 1 = 0", "ration 7 1", "bare 0 = NONE", "bare 1 = NONE");
-        Script.hold(17, "the first MONTH behind which a HOUSE has no LETTER at all;", "houses r1", "terms a1", "rations 0", "ration 0 1",
+        Script.hold(17, "BARE: the first MONTH behind which a HOUSE has no LETTER at all;",
+            "houses r1", "terms a1", "rations 0", "ration 0 1",
             "writing 11 0 0", "bare 0 = 11", "bare 1 = 0", "writing 0 0 0", "bare 0 = 0", "ration 0 2", "bare 0 = NONE", "ration 0 1",
             "ration 7 1", "bare 0 = NONE", "ration 7 0", "back 0", "bare 0 = 11");
         Script.hold(17, "which (1); NONE.", "bare 0 = NONE", "houses r1", "bare 0 = NONE", "bare 1 = NONE");
@@ -248,11 +252,14 @@ final class MonthBoundaries {
         Script.hold(20, "how many; as bits; NONE.", "terms a1;aa1", "papers 0 0 = 1", "papers 0 1 = 2", "papers 1 0 = NONE", "papers 1 1 = NONE");
         Script.hold(20, "NONE.", "terms a1", "papers 0 0 = NONE", "papers 0 1 = NONE", "terms ;b1", "papers 0 0 = NONE", "papers 1 1 = NONE",
             "terms ;ab1", "papers 0 0 = 1", "papers 0 1 = 4", "papers 2 0 = 2", "papers 2 1 = 3");
-        Script.hold(20, "the fewest others (each once) that have all its LETTERS together", "terms hhhhhh1;h1;h1;h1;h1;h1;h1;b1", "papers 0 0 = 6",
+        Script.hold(20, "PAPERS for a TERM: the fewest others (each once) that have all its LETTERS together",
+            "terms hhhhhh1;h1;h1;h1;h1;h1;h1;b1", "papers 0 0 = 6",
             "papers 0 1 = 126", "papers 1 0 = 1", "papers 1 1 = 1", "papers 7 0 = NONE", "papers 7 1 = NONE");
-        Script.hold(20, "the fewest others (each once) that have all its LETTERS together", "terms hhhhhh1;h1;h1;h1;h1;h1;b1", "papers 0 0 = NONE",
+        Script.hold(20, "PAPERS for a TERM: the fewest others (each once) that have all its LETTERS together",
+            "terms hhhhhh1;h1;h1;h1;h1;h1;b1", "papers 0 0 = NONE",
             "papers 0 1 = NONE");
-        Script.hold(20, "the fewest others (each once) that have all its LETTERS together", "terms bb1;b1", "papers 0 0 = NONE", "terms ;b1",
+        Script.hold(20, "PAPERS for a TERM: the fewest others (each once) that have all its LETTERS together",
+            "terms bb1;b1", "papers 0 0 = NONE", "terms ;b1",
             "papers 0 0 = 2", "papers 0 1 = 6", "terms ;bbc1", "papers 0 0 = 1", "papers 0 1 = 8");
         Script.hold(20, "of like ones the least bits: how many;", "terms b1;bc1;bd1;bf1;bg1;bh1;ba1;be1", "papers 0 1 = 2", "papers 1 1 = NONE",
             "papers 7 1 = NONE");

@@ -2,7 +2,7 @@
 final class SheetBoundaries {
     private static final String EIGHT_HOUSES = "houses r1;m2;v3;r4;m5;v6;r7;m8";
     private static final String EIGHT_TERMS = "terms a1;b2;c3;d4;e5;f6;g7;h8";
-    private static final String FORMS = "a row of a FORM: 0 bytes, 1 shorts, 2 ints, of 0 to 60 items (0 at first).";
+    private static final String FORMS = "or a row of a FORM: 0 bytes, 1 shorts, 2 ints, of 0 to 60 items (0 at first).";
     private static final String ORDER = "Refusals, the first that fits, in the order told at each act";
 
     private SheetBoundaries() {
@@ -250,9 +250,11 @@ final class SheetBoundaries {
         Script.hold(37, "h becomes 31 h and each of: count() 0 to 7;", "lose 0 = NULL", "digest = " + ofNothing(), "writing 0 0 0", "digest = CALLS",
             "lending 0 0 1 0", "digest = CALLS", "seen 0 0 0 0", "digest = CALLS");
         Script.hold(37, "of texts fault();", "houses r1;x", "terms abc", "fault 0 = 3", "fault 1 = 3", "digest = CALLS", "undo 0", "digest = CALLS");
-        Script.hold(37, "of HOUSES house() 0, 1, has(0, it, NONE)", "houses r1;m2;v9", "digest = CALLS", "writing 0 0 0", "terms bbb1;b1", "digest = CALLS",
+        Script.hold(37, "of HOUSES house() 0, 1, has(0, it, NONE), has(11, it, NONE), has(5, it, 0), fines(), most(3, it, 0 and 1)",
+            "houses r1;m2;v9", "digest = CALLS", "writing 0 0 0", "terms bbb1;b1", "digest = CALLS",
             "2* writing 3 1 1", "ration 0 1", "digest = CALLS");
-        Script.hold(37, "say(3, it, 1), ask(3, it), censor(5, it, 1), above, below", "houses r1", "terms h1;hhh1", "writing 3 0 0", "writing 5 0 0",
+        Script.hold(37, "say(3, it, 1), ask(3, it), censor(5, it, 1), above, below, post(7, 9, it);",
+            "houses r1", "terms h1;hhh1", "writing 3 0 0", "writing 5 0 0",
             "ask 2 0 = 0", "ask 3 0 = 7", "ask 4 0 = 0", "say 2 0 1 = 0", "digest = CALLS", "3* writing 3 0 1", "censor 5 0 1 0 = 1573",
             "censor 5 0 1 1 = 2048", "digest = CALLS");
         Script.hold(37, "of TERMS word() 0 to 9, papers() 0, 1, meant();", "terms abc1;ab2;c3;e4", "digest = CALLS", EIGHT_HOUSES, "digest = CALLS");

@@ -226,7 +226,8 @@ final class TextBoundaries {
         Script.range(8, "(0 to 9; 2 at first)", "houses m9", "ration 7 ?", 0, 9);
         Script.range(8, "(0 to 9; 2 at first)", "houses m9", "ration 0 ?", 0, 9);
         Script.range(8, "BAD.", "houses m9", "ration ? 9", 0, 7);
-        Script.hold(8, "of each LETTER so many a HEAD", "houses r1;r9", "ration 0 9", "has 0 0 0 = 9", "has 0 1 0 = 81", "ration 0 0 = 9",
+        Script.hold(8, "RATION: of each LETTER so many a HEAD",
+            "houses r1;r9", "ration 0 9", "has 0 0 0 = 9", "has 0 1 0 = 81", "ration 0 0 = 9",
             "has 0 1 0 = 0", "ration 0 1 = 0", "has 0 1 0 = 9");
     }
 
