@@ -19,9 +19,11 @@ final class ChanceBoundaries {
         neverHouses();
         got();
         ask();
+        askEach();
         censorRefused();
         censorLowest();
         censorOthers();
+        censorEach();
         postRefused();
         postLots();
         postMonths();
@@ -118,6 +120,18 @@ final class ChanceBoundaries {
         Script.hold(27, "ASK.", behind(A_YEAR, "ask 11 0 = 1", "ask 0 0 = 1", "seen 11 0 1 1", "ask 11 0 = 0", "ask 0 0 = 1"));
     }
 
+    /** Of each house and each letter: only of this letter it has otherwise many without the one writing than without the other. */
+    private static void askEach() {
+        for (int house = 0; house < 8; house++) {
+            for (int letter = 0; letter < 8; letter++) {
+                char sign = (char) ('a' + letter);
+                Script.hold(27, "ASK of a HOUSE behind a MONTH", "houses r3;r3;r3;r3;r3;r3;r3;r3", "terms " + sign + "1;" + sign + sign + "1",
+                    "writing 2 " + house + " 0", "writing 2 " + house + " 1", "ask 2 " + house + " = " + letter,
+                    "ask 2 " + (house + 1) % 8 + " = 0", "ask 1 " + house + " = 0");
+            }
+        }
+    }
+
     private static final String CENSOR = "CENSOR: above, below.";
     private static final String TWELVE_FINED = "houses r1;r1 / terms bbb1 / 12* writing 0 0 0";
 
@@ -187,6 +201,19 @@ final class ChanceBoundaries {
         fraction(chance, twoOfThree, "8 0 1", 1, 2);
         fraction(chance, twoOfThree, "8 0 2", 7, 8);
         fraction(chance, twoOfThree, "8 0 3", 1, 1);
+    }
+
+    /** Of each house and each letter, what is left in a month counts in the next: 2, then 1 and 2 more, for a term of 3. */
+    private static void censorEach() {
+        String sentence = "the chance that a HOUSE is FINED no more than so many times (0 to 12): a FRACTION.";
+        for (int house = 0; house < 8; house++) {
+            for (char letter = 'a'; letter <= 'h'; letter++) {
+                String state = "houses m1;m1;m1;m1;m1;m1;m1;m1 / terms " + letter + letter + letter + "1 / writing 0 "
+                    + house + " 0 / writing 1 " + house + " 0";
+                fraction(sentence, state, "8 " + house + " 0", 1, 2);
+                fraction(sentence, state, "8 " + (house + 1) % 8 + " 0", 1, 1);
+            }
+        }
     }
 
     private static final String POST = "POST: how many are written (house = NONE), how many LETTERS a HOUSE has.";

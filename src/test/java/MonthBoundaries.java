@@ -27,6 +27,7 @@ final class MonthBoundaries {
         say();
         sayLike();
         most();
+        mostEach();
         papers();
         lend();
         lendInPlace();
@@ -76,6 +77,10 @@ final class MonthBoundaries {
         Script.hold(13, "(and there are both HOUSES)", "houses r1;r1;r1;r1;r1;r1;r1", "lending 0 0 7 0", "has 0 0 0 = 2", "lending 0 7 0 1",
             "has 0 0 1 = 2", "houses ;r1", "has 0 0 0 = 1", "has 0 7 0 = 3", "has 0 0 1 = 3", "has 0 7 1 = 1", "undo 0", "count 0 = 0");
         Script.hold(13, "(and there are both HOUSES)", "houses r1", "lending 0 0 1 0", "has 0 0 0 = 2", "lending 0 1 0 0", "has 0 0 0 = 2");
+        for (int other = 1; other < 8; other++) {
+            Script.hold(13, "(and there are both HOUSES)", "houses r1", "lending 0 0 " + other + " 0", "lending 0 " + other + " 0 1",
+                "has 0 0 0 = 2", "has 0 0 1 = 2", "has 0 0 NONE = 16");
+        }
         Script.hold(13, "in a MONTH a HOUSE gives one of a LETTER to another one", EIGHT_HOUSES, "lending 11 7 0 7", "has 11 7 7 = 30",
             "has 11 0 7 = 3", "has 10 7 7 = 31", "has 10 0 7 = 2", "lending 0 0 7 0", "has 0 0 0 = 1", "has 0 7 0 = 17", "has 1 0 0 = 2");
     }
@@ -242,6 +247,17 @@ final class MonthBoundaries {
             "ration 1 7", "most 0 0 0 = 7", "most 0 0 1 = 127", "ration 1 8", "most 0 0 1 = 255", "ration 1 1", "most 0 0 1 = 1");
         Script.hold(19, "MOST of a HOUSE behind a MONTH", "houses r1;r1", "terms bb1", "writing 11 0 0", "most 11 0 0 = 0", "most 10 0 0 = 1",
             "most 11 1 1 = 1", "writing 0 0 0", "most 0 0 1 = 0", "most 1 0 1 = 1");
+    }
+
+    /** Of each house and each letter: it has as many of it as heads, for as many of eight like terms. */
+    private static void mostEach() {
+        for (int house = 0; house < 8; house++) {
+            for (int letter = 0; letter < 8; letter++) {
+                String terms = ("terms" + ";x1".repeat(8).replace('x', (char) ('a' + letter))).replaceFirst(";", " ");
+                Script.hold(19, "MOST of a HOUSE behind a MONTH", "houses r1;m2;v3;r4;v5;v6;r7;v8", terms, "rations 0", "ration " + letter + " 1",
+                    "most 0 " + house + " 0 = " + (house + 1), "most 0 " + house + " 1 = " + ((1 << house + 1) - 1));
+            }
+        }
     }
 
     private static void papers() {
